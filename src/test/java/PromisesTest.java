@@ -25,7 +25,7 @@ public final class PromisesTest {
   }
 
   /** Register r holds just the given sets, in ascending order. */
-  private static void holds(String when, SimplicialDesk x, int r, int... sets) {
+  private static void holds(String when, Desk x, int r, int... sets) {
     int next = 0;
     for (int set = 1; set < 64; set++) {
       boolean want = next < sets.length && sets[next] == set;
@@ -35,14 +35,14 @@ public final class PromisesTest {
     if (next != sets.length) throw new IllegalArgumentException("sets not ascending");
   }
 
-  private static SimplicialDesk with(int... sets) {
-    SimplicialDesk x = new SimplicialDesk();
+  private static Desk with(int... sets) {
+    Desk x = new Desk();
     for (int set : sets) x.add(0, set);
     return x;
   }
 
   /** H(0), H(1) and so on have these dimensions over the field, at both levels; those not given are 0. */
-  private static void holes(String what, SimplicialDesk x, int r, int p, int... want) {
+  private static void holes(String what, Desk x, int r, int p, int... want) {
     for (int level = 0; level < 2; level++) {
       x.level(level);
       for (int k = 0; k < 6; k++) {
@@ -52,19 +52,19 @@ public final class PromisesTest {
   }
 
   private static void newObject() {
-    SimplicialDesk x = new SimplicialDesk();
+    Desk x = new Desk();
     for (int r = 0; r < 4; r++) {
       holds("new", x, r);
       due("new: facets", x.facets(r), 0);
       due("new: pieces", x.pieces(r), 0);
     }
-    SimplicialDesk other = new SimplicialDesk();
+    Desk other = new Desk();
     x.add(0, 63);
     due("two objects share nothing", other.count(0, 0), 0);
   }
 
   private static void add() {
-    SimplicialDesk x = new SimplicialDesk();
+    Desk x = new Desk();
     due("add(0, 11)", x.add(0, 11), 7);
     holds("add 11", x, 0, 1, 2, 3, 8, 9, 10, 11);
     due("add a part again", x.add(0, 9), 7);
@@ -82,7 +82,7 @@ public final class PromisesTest {
   }
 
   private static void take() {
-    SimplicialDesk x = with(7, 14);
+    Desk x = with(7, 14);
     due("take a set not there", x.take(0, 16), 11);
     due("take a whole not there", x.take(0, 15), 11);
     due("take(0, 6)", x.take(0, 6), 8);
@@ -99,7 +99,7 @@ public final class PromisesTest {
   }
 
   private static void apply() {
-    SimplicialDesk x = with(7);
+    Desk x = with(7);
     x.add(1, 14);
     due("UNION", x.apply(SimplicialDesk.UNION, 2, 0, 1), true);
     holds("UNION", x, 2, 1, 2, 3, 4, 5, 6, 7, 8, 10, 12, 14);
@@ -123,7 +123,7 @@ public final class PromisesTest {
   }
 
   private static void dual() {
-    SimplicialDesk x = with(31, 47);
+    Desk x = with(31, 47);
     // Not in register 0: the sets with both 4 and 5, and 63. Their other vertices are sets of 0 to 3.
     due("DUAL", x.apply(SimplicialDesk.DUAL, 1, 0, 3), true);
     holds("DUAL", x, 1, 1, 2, 3, 4, 5, 6, 7, 8, 9, 10, 11, 12, 13, 14, 15);
@@ -138,7 +138,7 @@ public final class PromisesTest {
   }
 
   private static void link() {
-    SimplicialDesk x = with(7, 14, 48);
+    Desk x = with(7, 14, 48);
     due("link(1, 0, 2)", x.link(1, 0, 2), true);
     holds("link of 2", x, 1, 1, 4, 5, 8, 12);
     due("link(1, 0, 6)", x.link(1, 0, 6), true);
@@ -159,7 +159,7 @@ public final class PromisesTest {
   }
 
   private static void skeleton() {
-    SimplicialDesk x = with(15, 48);
+    Desk x = with(15, 48);
     due("skeleton(1, 0, 0)", x.skeleton(1, 0, 0), true);
     holds("degree 0", x, 1, 1, 2, 4, 8, 16, 32);
     due("skeleton(1, 0, 1)", x.skeleton(1, 0, 1), true);
@@ -183,7 +183,7 @@ public final class PromisesTest {
   }
 
   private static void has() {
-    SimplicialDesk x = with(63);
+    Desk x = with(63);
     for (int set = 1; set < 64; set++) due("has(0, " + set + ")", x.has(0, set), true);
     for (int set : NO_SET) due("has(0, " + set + ")", x.has(0, set), false);
     for (int r = 1; r < 4; r++) x.add(r, 63);
@@ -192,7 +192,7 @@ public final class PromisesTest {
   }
 
   private static void countAndBalance() {
-    SimplicialDesk x = with(63);
+    Desk x = with(63);
     int[] binomials = {6, 15, 20, 15, 6, 1};
     for (int k = 0; k < 6; k++) due("count(0, " + k + ")", x.count(0, k), binomials[k]);
     due("balance of all", x.balance(0), 1);
@@ -216,7 +216,7 @@ public final class PromisesTest {
   }
 
   private static void facets() {
-    SimplicialDesk x = with(7, 24, 32, 12, 3);
+    Desk x = with(7, 24, 32, 12, 3);
     int[] want = {7, 12, 24, 32};
     due("facets(0)", x.facets(0), want.length);
     for (int k = 0; k < want.length; k++) due("facet(0, " + k + ")", x.facet(0, k), want[k]);
@@ -243,7 +243,7 @@ public final class PromisesTest {
       holes("two circles apart", with(3, 6, 5, 24, 48, 40), 0, p, 2, 2);
       holes("octahedron", with(OCTAHEDRON), 0, p, 1, 0, 1);
       holes("projective plane", with(PLANE), 0, p, 1, even, even);
-      SimplicialDesk x = with(63);
+      Desk x = with(63);
       int[] bouquet = {0, 10, 10, 5, 1};
       for (int k = 1; k < 5; k++) {
         x.skeleton(1, 0, k);
@@ -253,14 +253,14 @@ public final class PromisesTest {
         holes("skeleton " + k, x, 1, p, want);
       }
     }
-    SimplicialDesk x = with(3);
+    Desk x = with(3);
     for (int r : NO_REGISTER) due("holes(" + r + ", 0, 0)", x.holes(r, 0, 0), BAD);
     for (int k : NO_DEGREE) due("holes(0, " + k + ", 0)", x.holes(0, k, 0), BAD);
     for (int p : NO_FIELD) due("holes(0, 0, " + p + ")", x.holes(0, 0, p), BAD);
   }
 
   private static void torsion() {
-    SimplicialDesk x = with(PLANE);
+    Desk x = with(PLANE);
     for (int level = 0; level < 2; level++) {
       x.level(level);
       for (int k = 0; k < 6; k++) due("plane: torsion(0, " + k + ")", x.torsion(0, k), k == 1 ? 2 : 1);
@@ -280,7 +280,7 @@ public final class PromisesTest {
 
   private static void relative() {
     for (int level = 0; level < 2; level++) {
-      SimplicialDesk x = with(63);
+      Desk x = with(63);
       x.level(level);
       for (int k = 0; k < 5; k++) {
         x.skeleton(1, 0, k);
@@ -293,20 +293,20 @@ public final class PromisesTest {
         due("none over all", x.relative(3, 0, j), 0);
       }
       // The sets of b that are not in a play no part: an edge over its ends, which b joins elsewhere.
-      SimplicialDesk y = with(3);
+      Desk y = with(3);
       y.level(level);
       y.add(1, 5);
       y.add(1, 6);
       due("edge over its ends, 0", y.relative(0, 1, 0), 0);
       due("edge over its ends, 1", y.relative(0, 1, 1), 1);
-      SimplicialDesk z = with(PLANE);
+      Desk z = with(PLANE);
       z.level(level);
       z.add(1, 7);
       due("plane over a triangle, 0", z.relative(0, 1, 0), 0);
       due("plane over a triangle, 1", z.relative(0, 1, 1), 1);
       due("plane over a triangle, 2", z.relative(0, 1, 2), 1);
     }
-    SimplicialDesk x = with(3);
+    Desk x = with(3);
     for (int r : NO_REGISTER) {
       due("relative a", x.relative(r, 0, 0), BAD);
       due("relative b", x.relative(0, r, 0), BAD);
@@ -316,7 +316,7 @@ public final class PromisesTest {
 
   private static void surface(String what, int want, int... sets) {
     for (int level = 0; level < 2; level++) {
-      SimplicialDesk x = with(sets);
+      Desk x = with(sets);
       x.level(level);
       due("level " + level + ": surface of " + what, x.surface(0), want);
     }
@@ -345,7 +345,7 @@ public final class PromisesTest {
     surface("3-sphere", 2, 15, 23, 27, 29, 30);
     surface("4-sphere", 2, 31, 47, 55, 59, 61, 62);
     surface("4-sphere less a set", 0, 31, 47, 55, 59, 61);
-    SimplicialDesk x = new SimplicialDesk();
+    Desk x = new Desk();
     for (int r : NO_REGISTER) due("surface(" + r + ")", x.surface(r), BAD);
   }
 
@@ -357,7 +357,7 @@ public final class PromisesTest {
     due("pieces of six vertices", with(1, 2, 4, 8, 16, 32).pieces(0), 6);
     due("pieces of a triangle and an edge", with(41, 18).pieces(0), 2);
     due("pieces of the last vertex", with(32).pieces(0), 1);
-    SimplicialDesk x = new SimplicialDesk();
+    Desk x = new Desk();
     due("pieces of none", x.pieces(0), 0);
     x.add(0, 3);
     x.take(0, 1);
@@ -368,7 +368,7 @@ public final class PromisesTest {
   }
 
   private static void level() {
-    SimplicialDesk x = with(PLANE);
+    Desk x = with(PLANE);
     due("level(1)", x.level(1), true);
     due("level(0)", x.level(0), true);
     for (int k : new int[] {-1, 2, Integer.MIN_VALUE, Integer.MAX_VALUE}) due("level(" + k + ")", x.level(k), false);
