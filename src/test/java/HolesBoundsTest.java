@@ -163,6 +163,25 @@ public final class HolesBoundsTest {
     torsionIs("the dual of the plane", Complexes.dual(Complexes.PLANE), 1, 2);
   }
 
+  /** All that the plane is asked, its vertices in each of the 720 orders: signs and places differ, the answers do not. */
+  private static void planesInEveryOrder() {
+    for (int code = 0; code < 720; code++) {
+      long plane = Complexes.inOrder(Complexes.PLANE, code);
+      for (int level : Complexes.LEVELS) {
+        Desk x = at(level, plane);
+        String what = "order " + code + ", level " + level + ": ";
+        for (int k : Complexes.DEGREES) {
+          Check.due(what + "torsion(0, " + k + ")", x.torsion(0, k), k == 1 ? 2 : 1);
+          for (int p : Complexes.FIELDS) {
+            int due = k == 0 || p == 2 && k <= 2 ? 1 : 0;
+            Check.due(what + name(0, k, p), x.holes(0, k, p), due);
+          }
+        }
+        Check.due(what + "surface(0)", x.surface(0), 1);
+      }
+    }
+  }
+
   // Promise 14: relative
 
   private static String relativeName(int a, int b, int k) {
@@ -241,6 +260,28 @@ public final class HolesBoundsTest {
       due[k + 1] = new int[] {6, 15, 20, 15, 6, 1}[k + 1];
       relativeIs("degrees up to " + (k + 1) + " to those below",
           Complexes.skeleton(Complexes.FULL, k + 1), Complexes.skeleton(Complexes.FULL, k), due);
+    }
+  }
+
+  /** Of one set and its parts only the set itself is left: it is closed and no edge. */
+  private static void relativeOneSetLeft() {
+    for (int set : Complexes.SETS) {
+      int[] due = new int[6];
+      due[Complexes.degree(set)] = 1;
+      relativeIs("set " + set + " to its other parts", Complexes.of(set), Complexes.of(set) & ~(1L << set), due);
+    }
+  }
+
+  /** Only the set and one part are left, whose one multiple is the set's edge: so every part of every edge plays its part. */
+  private static void relativeOneSetAndOnePartLeft() {
+    for (int set : Complexes.SETS) {
+      for (int v = 0; v < 6; v++) {
+        int part = set & ~(1 << v);
+        if (part != set && part != 0) {
+          long left = 1L << set | 1L << part;
+          relativeIs("set " + set + " to all but its part " + part, Complexes.of(set), Complexes.of(set) & ~left);
+        }
+      }
     }
   }
 
@@ -361,6 +402,7 @@ public final class HolesBoundsTest {
     Check.test("promise 13: of none and of all", HolesBoundsTest::torsionOfEmptyAndFull);
     Check.test("promise 13: (1: only 0)", HolesBoundsTest::torsionOnlyNought);
     Check.test("promise 13: some multiple other than 0 times is 0", HolesBoundsTest::torsionOfThePlane);
+    Check.test("promises 12, 13 and 15: whichever vertices are which", HolesBoundsTest::planesInEveryOrder);
     Check.test("promise 14: a outside 0..3: BAD", HolesBoundsTest::relativeAOutside);
     Check.test("promise 14: b outside 0..3: BAD", HolesBoundsTest::relativeBOutside);
     Check.test("promise 14: k outside 0..5: BAD", HolesBoundsTest::relativeKOutside);
@@ -370,6 +412,8 @@ public final class HolesBoundsTest {
     Check.test("promise 14: b is full", HolesBoundsTest::relativeToFull);
     Check.test("promise 14: degrees 0 to 5", HolesBoundsTest::relativeLeastAndGreatestDegree);
     Check.test("promise 14: the sets of b that are in a", HolesBoundsTest::relativeOnlySetsInA);
+    Check.test("promise 14: one set is left", HolesBoundsTest::relativeOneSetLeft);
+    Check.test("promise 14: one set and one part are left", HolesBoundsTest::relativeOneSetAndOnePartLeft);
   }
 
   private static void surface() {

@@ -235,25 +235,13 @@ public final class QuestionsBoundsTest {
   /** Paths through all vertices in every order: what joins the ends may come last. */
   private static void piecesOfPaths() {
     for (int code = 0; code < 720; code++) {
-      int[] order = order(code);
+      int[] order = Complexes.order(code);
       Desk x = new Desk();
       for (int i = 0; i < 5; i++) x.add(0, 1 << order[i] | 1 << order[i + 1]);
       Check.due("path " + code + ": pieces(0)", x.pieces(0), 1);
       x.take(0, 1 << order[2] | 1 << order[3]);
       Check.due("path " + code + " cut: pieces(0)", x.pieces(0), 2);
     }
-  }
-
-  private static int[] order(int code) {
-    int[] order = {0, 1, 2, 3, 4, 5};
-    for (int i = 5; i > 0; i--) {
-      int j = code % (i + 1);
-      code /= i + 1;
-      int v = order[i];
-      order[i] = order[j];
-      order[j] = v;
-    }
-    return order;
   }
 
   private static void verticesOutsideDoNotCount() {

@@ -76,6 +76,31 @@ final class Complexes {
     return found;
   }
 
+  /** The vertices 0 to 5 in one of the 720 orders. */
+  static int[] order(int code) {
+    int[] order = {0, 1, 2, 3, 4, 5};
+    for (int i = 5; i > 0; i--) {
+      int j = code % (i + 1);
+      code /= i + 1;
+      int v = order[i];
+      order[i] = order[j];
+      order[j] = v;
+    }
+    return order;
+  }
+
+  /** The complex with other names for its vertices. */
+  static long inOrder(long complex, int code) {
+    int[] order = order(code);
+    long renamed = 0;
+    for (int set : SETS) {
+      int other = 0;
+      for (int v = 0; v < 6; v++) if ((set >> v & 1) == 1) other |= 1 << order[v];
+      if (in(complex, set)) renamed |= 1L << other;
+    }
+    return renamed;
+  }
+
   static long without(long complex, int taken) {
     long left = 0;
     for (int set : SETS) if (in(complex, set) && (set & taken) != taken) left |= 1L << set;
